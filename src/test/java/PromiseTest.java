@@ -186,6 +186,13 @@ public final class PromiseTest {
         bad("add 123456;", 1, 4);
         bad("add 000001;", 1, 4);
         bad("addx 5;", 1, 0);
+        bad("addz 5;", 1, 0);
+        bad("adda 5;", 1, 0);
+        bad("add 90`;", 1, 6);
+        bad("add 90{;", 1, 6);
+        bad(";".repeat(500), 1, 0);
+        bad("end;".repeat(124) + "free", 1, 500);
+        bad("end;".repeat(124) + "add5", 1, 500);
         bad("Add 5;", 1, 0);
         bad("free;\tend;", 1, 5);
         bad("free;\rend;", 1, 5);
@@ -229,11 +236,25 @@ public final class PromiseTest {
         bad("part 1/0;when age=1 and age=1 and age=1 and age=1 and sum=1:end;", 2, 7);
         bad("end;".repeat(16) + "part 1/0;", 3, 64);
         bad("end;".repeat(15) + "part 1/0;end;", 2, 67);
+        bad("end;".repeat(15) + "when age=1 and age=1 and age=1 and age=1 and age=1:end;", 3, 105);
         // A fault of the text goes before, though it stands behind.
         bad("part 1/0;fre;", 1, 9);
         bad("end;".repeat(17) + "!", 1, 68);
         bad("when age=1 and age=1 and age=1 and age=1 and age=1;", 1, 50);
         bad("part 1/0", 1, 8);
+    }
+
+    /** What stood behind the end of the tape is no part of its last token. */
+    private static void cutFaults() {
+        NightSchool x = new NightSchool();
+        tape(x, "add 123456;", 0);
+        x.end(9);
+        due("fees of a number that was cut", x.fees(), NONE);
+        due("its place", x.fault(1), 9);
+        tape(x, "free;", 0);
+        x.end(3);
+        due("fees of a word that was cut", x.fees(), NONE);
+        due("its place", x.fault(1), 0);
     }
 
     private static void fault() {
@@ -252,6 +273,7 @@ public final class PromiseTest {
         due("fault(0) of the latest", x.fault(0), 2);
         fees(x, "free;");
         due("fault(0) of a good one", x.fault(0), 0);
+        cutFaults();
         due("fault(1) of a good one", x.fault(1), NONE);
     }
 
@@ -961,6 +983,48 @@ public final class PromiseTest {
         due("pupil 0 has its course", x.person(0, 3), 1);
     }
 
+    /** A history that goes two ways from one image: each way has its own rooms, courses and pupils. */
+    private static void twoWays() {
+        NightSchool x = new NightSchool();
+        x.image(0);
+        x.room(5);
+        x.course(0, 1, 2, 5, 10);
+        x.pupil(20, 1, 1);
+        x.pupil(21, 1, 1);
+        wishes(x, 0, 0);
+        wishes(x, 1, 0);
+        x.image(1);
+        x.again(0);
+        due("nothing", x.count(0) + x.count(1) + x.count(2), 0);
+        x.room(1);
+        x.course(3, 4, 7, 8, 99);
+        x.course(4, 4, 7, 8, 99);
+        x.pupil(70, 2, 3);
+        x.pupil(71, 2, 3);
+        wishes(x, 0, 1, 0);
+        wishes(x, 1, 1, 0);
+        x.image(2);
+        x.again(1);
+        int[] course = {0, 1, 2, 5, 10};
+        int[] person = {20, 1, 1, 0, 1, 0, 0, NONE, NONE, NONE, 0};
+        for (int what = 0; what < course.length; what++) {
+            due("tell(0, " + what + ")", x.tell(0, what), course[what]);
+        }
+        for (int what = 0; what < person.length; what++) {
+            due("person(0, " + what + ")", x.person(0, what), person[what]);
+        }
+        due("the room has its five seats", x.canHold(1), true);
+        due("open", x.open(), 12);
+        due("places", x.tell(0, 7), 5);
+        x.again(2);
+        due("the room has its one seat", x.canHold(1), false);
+        due("no term", x.count(6), NONE);
+        due("evening", x.tell(0, 0), 3);
+        due("least", x.tell(0, 2), 7);
+        due("age", x.person(1, 0), 71);
+        due("first wish", x.person(1, 10), 1);
+    }
+
     private static void run(int number) {
         promise = number;
         switch (number) {
@@ -988,7 +1052,7 @@ public final class PromiseTest {
             case 22: count(); break;
             case 23: waits(); break;
             case 24: image(); break;
-            default: again(); break;
+            default: again(); twoWays(); break;
         }
     }
 
