@@ -1,12 +1,15 @@
 import java.util.Random;
 
 /**
- * Random runs of calls, each answered by the program and by SchoolModel: every answer must be the same,
- * and from time to time all that can be told is compared. The seeds are fixed, so each run is always the same.
+ * Random runs of calls, each answered by the program and by SchoolModel: every answer must be the same.
+ * Half the calls are questions. The seeds are fixed, so each run is always the same; and no object gets more than
+ * the 512 calls for which its answers are promised.
  */
 public final class ModelTest {
-    private static final int RUNS = 400;
+    private static final int RUNS = 3000;
     private static final int CALLS = 512;
+    /** A text of fees takes 26 feeds at most, of which the last one is refused, end, fees and two questions. */
+    private static final int CALLS_OF_FEES = 30;
     private static final int[] ODD = {Integer.MIN_VALUE, -1000, -1, 0, 1, 5, 6, 9, 10, 29, 30, 40, 41, 1024, Integer.MAX_VALUE};
     private static final String[] SUBJECTS = {"age", "purse", "courses", "sum", "first", "week"};
     private static final String[] PIECES = {"when", "and", "age", "sum", "add", "part", "free", "end", "less", "least",
@@ -34,6 +37,7 @@ public final class ModelTest {
     }
 
     private void same(String call, long got, long want) {
+        calls++;
         if (got != want) {
             wrong++;
             if (wrong < 5) {
@@ -169,18 +173,24 @@ public final class ModelTest {
             bytes[i] = (byte) text.charAt(i);
         }
         int before = model.tape.length();
-        for (int i = 0; i < bytes.length; i += 20) {
+        boolean taken = true;
+        for (int i = 0; taken && i < bytes.length; i += 20) {
             int[] n = new int[5];
             for (int j = 0; j < 20; j++) {
                 n[j / 4] = n[j / 4] << 8 | bytes[i + j] & 255;
             }
-            same("feed", real.feed(n[0], n[1], n[2], n[3], n[4]), model.feed(n));
+            int want = model.feed(n);
+            same("feed", real.feed(n[0], n[1], n[2], n[3], n[4]), want);
+            taken = want != -1;
         }
         int length = before + text.length();
         same("end(" + length + ")", real.end(length), model.end(length));
     }
 
     private void tryFees() {
+        if (calls + CALLS_OF_FEES > CALLS) {
+            return;
+        }
         String text = someText();
         giveText(text);
         if (random.nextInt(8) == 0) {
@@ -203,7 +213,7 @@ public final class ModelTest {
             case 5: case 6: case 7: case 8: case 9: addWish(); break;
             case 10: same("canHold(" + set + ")", bit(real.canHold(set)), bit(model.canHold(set))); break;
             case 11: same("points(" + set + ")", real.points(set), model.points(set)); break;
-            case 12: if (random.nextInt(3) == 0) tryOpen(); break;
+            case 12: tryOpen(); break;
             case 13: if (random.nextInt(8) == 0) same("close()", real.close(), model.close()); break;
             case 14: case 15: tryWeeks(); break;
             case 16: case 17: case 18: case 19: tryQuit(); break;
@@ -213,49 +223,57 @@ public final class ModelTest {
         }
     }
 
-    private void compareCourse(int c) {
-        for (int what = -1; what <= 11; what++) {
-            same("tell(" + c + "," + what + ")", real.tell(c, what), model.tell(c, what));
+    private void askCourse() {
+        int c = someCourse();
+        int what = below(11);
+        int k = below(5);
+        if (random.nextInt(3) != 0) {
+            same("tell(" + c + ", " + what + ")", real.tell(c, what), model.tell(c, what));
+            return;
         }
-        for (int k = -1; k <= 4; k++) {
-            same("waits(" + c + "," + k + ")", real.waits(c, k), model.waits(c, k));
-        }
-        if (model.waits(c, 0) >= 0) {
+        int want = model.waits(c, k);
+        same("waits(" + c + ", " + k + ")", real.waits(c, k), want);
+        if (want >= 0) {
             seen[3]++;
         }
     }
 
-    private void comparePupil(int p) {
-        for (int what = -1; what <= 26; what++) {
-            same("person(" + p + "," + what + ")", real.person(p, what), model.person(p, what));
+    private void askPupil() {
+        int p = somePupil();
+        int c = someCourse();
+        int what = below(26);
+        if (random.nextBoolean()) {
+            same("person(" + p + ", " + what + ")", real.person(p, what), model.person(p, what));
+            return;
         }
-        for (int c = -1; c <= 10; c++) {
-            same("why(" + p + "," + c + ")", real.why(p, c), model.why(p, c));
-            if (model.why(p, c) >= 0) {
-                seen[9 + model.why(p, c)]++;
-            }
+        int want = model.why(p, c);
+        same("why(" + p + ", " + c + ")", real.why(p, c), want);
+        if (want >= 0) {
+            seen[9 + want]++;
         }
-        for (int k = -1; k <= 16; k++) {
-            same("line(" + p + "," + k + ")", real.line(p, k), model.line(p, k));
-        }
-        same("bill(" + p + ")", real.bill(p), model.bill(p));
     }
 
-    private void compareAll() {
-        for (int what = -1; what <= 9; what++) {
-            same("count(" + what + ")", real.count(what), model.count(what));
+    private void askMoney() {
+        int p = somePupil();
+        int k = below(Math.max(1, model.s.fees.size() + 1));
+        if (random.nextBoolean()) {
+            same("bill(" + p + ")", real.bill(p), model.bill(p));
+        } else {
+            same("line(" + p + ", " + k + ")", real.line(p, k), model.line(p, k));
         }
-        for (int k = -1; k <= 6; k++) {
-            for (int what = -1; what <= 2; what++) {
-                same("hours(" + what + "," + k + ")", real.hours(what, k), model.hours(what, k));
-            }
-            same("fault(" + k + ")", real.fault(k), model.fault(k));
-        }
-        for (int c = -1; c <= 10; c++) {
-            compareCourse(c);
-        }
-        for (int p = -1; p <= 30; p++) {
-            comparePupil(p);
+    }
+
+    private void ask() {
+        int what = below(3);
+        int k = below(7);
+        int number = below(10);
+        switch (random.nextInt(8)) {
+            case 0: case 1: askCourse(); break;
+            case 2: case 3: askPupil(); break;
+            case 4: askMoney(); break;
+            case 5: same("hours(" + what + ", " + k + ")", real.hours(what, k), model.hours(what, k)); break;
+            case 6: same("fault(" + what + ")", real.fault(what), model.fault(what)); break;
+            default: same("count(" + number + ")", real.count(number), model.count(number)); break;
         }
     }
 
@@ -273,13 +291,14 @@ public final class ModelTest {
         if (seed % 5 != 0) {
             prepare();
         }
-        for (calls = 0; calls < CALLS && wrong == 0; calls++) {
-            step();
-            if (calls % 8 == 0) {
-                compareAll();
+        // Now and then a step makes no call, so the steps are counted, too.
+        for (int steps = 0; steps < 4 * CALLS && calls < CALLS && wrong == 0; steps++) {
+            if (random.nextBoolean()) {
+                step();
+            } else {
+                ask();
             }
         }
-        compareAll();
         return wrong;
     }
 
