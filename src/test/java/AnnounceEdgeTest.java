@@ -7,7 +7,7 @@ public final class AnnounceEdgeTest extends Edge {
         changesNothing(AnnounceEdgeTest::calm, call, asked, NONE);
     }
 
-    /** A term, and then none again: what may come in neither is refused by the term alone. */
+    /** A school with room for one more of everything, so that the term alone can be why it is refused. */
     private static NightSchool inTerm() {
         NightSchool x = calm();
         x.open();

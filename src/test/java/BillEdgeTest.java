@@ -150,6 +150,7 @@ public final class BillEdgeTest extends Edge {
                     text.append(i == 0 ? "when " : " and ").append((failing >> i & 1) == 1 ? fails[i] : holds[i]);
                 }
                 bill(10, text + ":add 1;", failing == 0 ? 11 : 10);
+                bill(10, "less 0;".repeat(15) + text + ":add 1;", failing == 0 ? 11 : 10);
             }
         }
         bill(10, "when age=31:free;when age=30:add 5;when age=31:end;add 6;", 21);

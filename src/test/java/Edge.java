@@ -18,7 +18,6 @@ abstract class Edge {
     private static int looked = 0;
     private static int wrong = 0;
 
-
     /** A test that looks at nothing would hold for every program, so it counts as a wrong one. */
     static void sentence(int promise, String said, Runnable test) {
         words = "promise " + promise + ": '" + said + "'";
@@ -187,6 +186,7 @@ abstract class Edge {
             see(seen, "hours(1, " + k + ")", x.hours(1, k));
         }
         for (int set = 0; set < 1 << Math.min(3, x.count(1)); set++) {
+            see(seen, "canHold(" + set + ")", bit(x.canHold(set)));
             see(seen, "points(" + set + ")", x.points(set));
         }
         return seen.toString();

@@ -65,6 +65,8 @@ public final class FeesEdgeTest extends Edge {
         x.close();
         due("count(7) without the term", x.count(7), 1);
         due("bill without the term", x.bill(0), 9);
+        x.open();
+        due("bill in the next one", x.bill(0), 19);
     }
 
     private static void howManyLines() {
@@ -91,7 +93,15 @@ public final class FeesEdgeTest extends Edge {
             NightSchool twin = busy();
             x.end(0);
             due("fees() of " + shown(text), fees(x, text), NONE);
-            same("the fees from before hold on behind " + shown(text), picture(x), picture(twin));
+            same("nothing told is changed behind " + shown(text), picture(x), picture(twin));
+            NightSchool y = new NightSchool();
+            y.pupil(0, 0, 1);
+            fees(y, "add 5;when age=0:add 6;");
+            due("fees() of " + shown(text), fees(y, text), NONE);
+            due("the lines from before", y.count(7), 2);
+            due("line(0, 0)", y.line(0, 0), 5);
+            due("line(0, 1)", y.line(0, 1), 6);
+            due("the bill from before", y.bill(0), 11);
         }
     }
 
@@ -270,12 +280,24 @@ public final class FeesEdgeTest extends Edge {
         }
         bad(" ".repeat(496) + "free", 1, 500);
         bad("free" + " ".repeat(496), 1, 500);
+        bad(" ".repeat(495) + "add 5", 1, 500);
+        bad(" ".repeat(491) + "add 12345", 1, 500);
         good(" ".repeat(495) + "free;", 1);
+        bad(";".repeat(500), 1, 0);
+        bad("when" + ":".repeat(496), 1, 4);
         NightSchool x = new NightSchool();
         onTape(x, "free;end;");
         x.end(8);
         due("what stood behind the end is no part of the text", x.fees(), NONE);
         due("fault(1)", x.fault(1), 8);
+        onTape(x, "add 123456;");
+        x.end(9);
+        due("nor is a digit there part of its last number", x.fees(), NONE);
+        due("fault(1)", x.fault(1), 9);
+        onTape(x, "addx");
+        x.end(3);
+        due("nor is a letter there part of its last word", x.fees(), NONE);
+        due("fault(1)", x.fault(1), 3);
     }
 
     private static void textBeforeTheOthers() {
@@ -311,6 +333,7 @@ public final class FeesEdgeTest extends Edge {
         bad("end;".repeat(125), TOO_MANY, 64);
         bad("end;".repeat(16) + " \n free;", TOO_MANY, 67);
         bad("end;".repeat(16) + "when age=1:end;", TOO_MANY, 64);
+        bad("end;".repeat(17) + "when age=1 and age=1:end;".repeat(10), TOO_MANY, 64);
         good("end;".repeat(16) + " \n", 16);
         good("when age=1:add 1;".repeat(16), 16);
     }
@@ -324,6 +347,7 @@ public final class FeesEdgeTest extends Edge {
         bad("free;" + FOUR_TESTS + " and age=1:end;", TOO_MANY, 53);
         bad("when age=1" + " and age=1".repeat(40) + ":end;", TOO_MANY, 45);
         bad("end;".repeat(15) + FOUR_TESTS + " and age=1:end;", TOO_MANY, 108);
+        bad("end;".repeat(15) + FOUR_TESTS + " and age=1".repeat(30) + ":end;", TOO_MANY, 108);
     }
 
     private static void theFirstOfThese() {

@@ -89,6 +89,126 @@ public final class ImageEdgeTest extends Edge {
         }
     }
 
+    private static NightSchool way(NightSchool x, int[] seats, int[][] courses, int age, String text) {
+        for (int n : seats) {
+            x.room(n);
+        }
+        for (int[] c : courses) {
+            x.course(c[0], c[1], c[2], c[3], c[4]);
+        }
+        for (int p = 0; p < 4; p++) {
+            x.pupil(age + p, age % 3, 1 + (age + p) % 3);
+            for (int rank = 0; rank < 3; rank++) {
+                x.wish(p, (age + p + rank) % 3);
+            }
+        }
+        fees(x, text);
+        x.open();
+        x.quit(1, Math.max(x.person(1, 23), x.person(1, 24)));
+        x.weeks(2);
+        return x;
+    }
+
+    private static NightSchool oneWay(NightSchool x) {
+        return way(x, seats(9, 40), courses(row(4, 5, 3, 5, 700), row(3, 4, 2, 8, 800), row(4, 3, 1, 7, 900)), 80,
+            "when sum>700 and age<83:less 9;when courses=2:part 3/4;");
+    }
+
+    private static NightSchool otherWay(NightSchool x) {
+        return way(x, seats(40, 2), courses(row(0, 1, 2, 5, 10), row(4, 2, 1, 3, 20), row(3, 0, 1, 4, 30)), 21,
+            "when age=22 and purse=0:add 50;when week=2:part 1/2;less 1;");
+    }
+
+    private static NightSchool bothWays() {
+        NightSchool x = new NightSchool();
+        x.image(0);
+        oneWay(x);
+        x.image(1);
+        x.again(0);
+        otherWay(x);
+        x.image(2);
+        return x;
+    }
+
+    /** Two histories from one image, with other numbers everywhere: neither has anything of the other one. */
+    private static void twoWays() {
+        NightSchool x = bothWays();
+        same("the second way", picture(x), picture(otherWay(new NightSchool())));
+        NightSchool y = bothWays();
+        y.again(1);
+        same("the first way again", picture(y), picture(oneWay(new NightSchool())));
+        NightSchool z = bothWays();
+        z.again(1);
+        z.again(2);
+        same("the second way again", picture(z), picture(otherWay(new NightSchool())));
+        NightSchool w = bothWays();
+        w.again(0);
+        same("nothing again", picture(w), picture(new NightSchool()));
+    }
+
+    private static NightSchool greatest() {
+        NightSchool x = new NightSchool();
+        x.image(0);
+        for (int i = 0; i < 5; i++) {
+            x.room(40);
+        }
+        for (int i = 0; i < 10; i++) {
+            x.course(i % 5, i / 5, 1, 40, 100 * i);
+        }
+        for (int i = 0; i < 30; i++) {
+            x.pupil(i, 0, 3);
+        }
+        for (int i = 0; i < 180; i++) {
+            x.wish(i / 6, (i / 6 + i % 6) % 10);
+        }
+        return x;
+    }
+
+    /** An image has room for as much as there can be. */
+    private static void greatestImage() {
+        NightSchool x = greatest();
+        x.image(2);
+        x.again(0);
+        for (int i = 0; i < 30; i++) {
+            x.course(0, 0, 1, 1, 0);
+            x.pupil(100, 2, 1);
+        }
+        for (int rank = 0; rank < 6; rank++) {
+            x.wish(15, 9 - rank);
+            x.wish(29, 8 - rank);
+        }
+        x.again(2);
+        for (int i = 0; i < 180; i++) {
+            due("rank " + i % 6 + " of pupil " + i / 6, x.person(i / 6, 10 + i % 6), (i / 6 + i % 6) % 10);
+        }
+        NightSchool y = greatest();
+        y.open();
+        y.weeks(1);
+        y.image(2);
+        y.again(0);
+        y.again(2);
+        for (int p = 0; p < 30; p++) {
+            due("places of pupil " + p, Integer.bitCount(y.person(p, 3)), 3);
+            due("age of pupil " + p, y.person(p, 0), p);
+        }
+        for (int c = 0; c < 10; c++) {
+            due("price of course " + c, y.tell(c, 4), 100 * c);
+            due("room of course " + c, y.tell(c, 6), c / 5);
+            due("weeks of course " + c, y.tell(c, 9), 1);
+        }
+        due("hours of teacher 1", y.hours(0, 1), 10);
+        due("hours of room 1", y.hours(1, 1), 10);
+        due("hours of room 4", y.hours(1, 4), 0);
+        NightSchool z = greatest();
+        fees(z, "add 1;".repeat(15) + "when age>3 and age<7 and age>4 and age<6:add 9;");
+        z.image(2);
+        fees(z, "when age=99 and age=99 and age=99 and age=99:end;");
+        z.again(2);
+        for (int p = 0; p < 30; p++) {
+            due("bill of pupil " + p, z.bill(p), p == 5 ? 24 : 15);
+        }
+    }
+
     /** What is told of rooms, courses and pupils that are not there yet must not come from later ones. */
     private static void goesOnFromThere() {
         NightSchool x = calm();
@@ -215,6 +335,8 @@ public final class ImageEdgeTest extends Edge {
         sentence(24, "Image k is all that is told, and nothing else is changed", ImageEdgeTest::imageChangesNothingElse);
         sentence(24, "as it is now", ImageEdgeTest::asItIsNow);
         sentence(25, "All that is as image k has it: true", ImageEdgeTest::allThatIs);
+        sentence(25, "All that is as image k has it, and nothing is from another time", ImageEdgeTest::twoWays);
+        sentence(25, "All that is as image k has it, in the greatest school, too", ImageEdgeTest::greatestImage);
         sentence(25, "All that is as image k has it, and goes on from there", ImageEdgeTest::goesOnFromThere);
         sentence(25, "the image is the same behind again", ImageEdgeTest::imageStays);
         sentence(25, "all that is told but the tape and the FAULT", ImageEdgeTest::butTheTapeAndFault);

@@ -18,7 +18,10 @@ public final class PlacingEdgeTest extends Edge {
                 holds("one teacher, one evening", x, 0b0011, false);
                 holds("one teacher, two evenings", x, 0b0101, true);
                 holds("two teachers, one evening", x, 0b1001, true);
-                holds("with others between", x, 0b1111, false);
+                holds("one more of another evening", x, 0b1111, false);
+                NightSchool y = school(seats(9, 9, 9), courses(row(evening, teacher, 1, 1), row(evening, 5 - teacher, 1, 1),
+                    row(evening, teacher, 1, 1)), NOBODY);
+                holds("another teacher between", y, 0b111, false);
             }
         }
     }
@@ -332,6 +335,20 @@ public final class PlacingEdgeTest extends Edge {
         due("the tenth course is held", z.tell(9, 5), 1);
     }
 
+    private static void bestAsItIsNow() {
+        NightSchool x = school(seats(9), courses(row(0, 0, 2, 9), row(1, 0, 1, 9)), row(2, 0, 1), row(1));
+        due("course 1 alone", x.open(), 5);
+        due("held", x.tell(0, 5), 0);
+        x.close();
+        x.wish(1, 0);
+        due("both, since a wish came", x.open(), 6 + 5 + 6);
+        due("held", x.tell(0, 5), 1);
+        x.quit(1, 0);
+        x.close();
+        due("course 1 alone, since a wish is no more", x.open(), 5);
+        due("held", x.tell(0, 5), 0);
+    }
+
     private static void leastBits() {
         NightSchool x = school(seats(9), courses(row(0, 0, 1, 9), row(0, 0, 1, 9), row(0, 0, 1, 9)), row(1, 2), row(1, 1), row(1, 0));
         due("open()", x.open(), 6);
@@ -404,6 +421,7 @@ public final class PlacingEdgeTest extends Edge {
         sentence(11, "LAWFUL if each of its COURSES has its LEAST then .. NONE: .. not LAWFUL", PlacingEdgeTest::lawful);
         sentence(11, "POINTS: of each PLACE that was got 6 less the RANK", PlacingEdgeTest::sixLessTheRank);
         sentence(12, "BEST: the LAWFUL set of most POINTS", PlacingEdgeTest::mostPoints);
+        sentence(12, "BEST, by the WISHES that there are now", PlacingEdgeTest::bestAsItIsNow);
         sentence(12, "of several that with the least bits", PlacingEdgeTest::leastBits);
         sentence(12, "the empty one is LAWFUL, with none", PlacingEdgeTest::emptySetIsLawful);
         sentence(12, "A TERM is opened with BEST, its ROOMS and PLACING; week 0", PlacingEdgeTest::opened);

@@ -1,3 +1,5 @@
+import java.util.function.ToLongFunction;
+
 /** Promises 16 to 19, 22 and 23: the edges of all that is told of courses, pupils, hours and numbers. */
 public final class TellEdgeTest extends Edge {
     /** Held or not, two rooms, and a course that nobody wishes. */
@@ -385,6 +387,9 @@ public final class TellEdgeTest extends Edge {
         due("one has moved up", x.waits(0, 0), 2);
         due("waits(0, 27)", x.waits(0, 27), 29);
         due("waits(0, 28)", x.waits(0, 28), NONE);
+        x.wish(0, 0);
+        due("the first pupil of all waits, too", x.waits(0, 0), 0);
+        due("before the others", x.waits(0, 1), 2);
     }
 
     private static void wouldHaveIt() {
@@ -433,10 +438,13 @@ public final class TellEdgeTest extends Edge {
 
     private static void askingChangesNothing() {
         for (int n : new int[] {-1, 0, 1, 2, 3, 7, MIN, MAX}) {
-            changesNothing(TellEdgeTest::busy, "all questions of " + n, x -> {
+            ToLongFunction<NightSchool> asked = x -> {
                 askAll(x, n);
                 return 0;
-            }, 0);
+            };
+            changesNothing(TellEdgeTest::busy, "all questions of " + n + " in a term", asked, 0);
+            changesNothing(TellEdgeTest::calm, "all questions of " + n + " without one", asked, 0);
+            changesNothing(NightSchool::new, "all questions of " + n + " of a new object", asked, 0);
         }
     }
 

@@ -280,7 +280,7 @@ public final class TermEdgeTest extends Edge {
     }
 
     private static void earlierPupilsToo() {
-        // Pupil 0 waits for what pupil 1 leaves, pupil 1 for what pupil 2 leaves: the last one makes way for the first.
+        // Who gives a course up makes way for a pupil before it by numbers, and gets its own next wish.
         NightSchool x = school(seats(9, 9, 9), courses(row(0, 0, 1, 1), row(0, 1, 1, 1), row(0, 2, 1, 1)),
             row(1, 2), row(1, 1), row(1, 0));
         due("open()", x.open(), 18);
@@ -336,13 +336,18 @@ public final class TermEdgeTest extends Edge {
     }
 
     private static void courseIsHeld() {
-        NightSchool x = school(seats(9, 9), courses(row(0, 0, 1, 9), row(1, 0, 2, 9)), row(2, 0, 1));
+        NightSchool x = school(seats(9, 9), courses(row(0, 0, 1, 9), row(1, 0, 2, 9)), row(2, 0, 1), row(1));
         x.open();
         due("course 1 is not held", x.tell(1, 5), 0);
+        due("a second wish for it", x.wish(1, 1), 0);
+        due("does not bring it in the term", x.tell(1, 5), 0);
         x.weeks(1);
         due("pupil 0", x.person(0, 3), 1);
-        x.pupil(9, 0, 1);
-        due("a second wish does not bring it in the term", x.count(8), 0);
+        due("pupil 1", x.person(1, 3), 0);
+        due("moves", x.count(8), 0);
+        x.close();
+        x.open();
+        due("but in the next one", x.tell(1, 5), 1);
     }
 
     private static void placeIsLeft() {
