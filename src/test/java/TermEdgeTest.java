@@ -455,6 +455,34 @@ public final class TermEdgeTest extends Edge {
         due("and of one less again", y.person(0, 5), 5);
     }
 
+    /** The last pupil, with all the wishes that it may have, of the last courses. */
+    private static void lastOfAll() {
+        for (int gone = 7; gone <= 9; gone++) {
+            NightSchool x = new NightSchool();
+            x.room(9);
+            for (int c = 0; c < 10; c++) {
+                x.course(c % 5, c / 5, 1, 9, 0);
+            }
+            for (int p = 0; p < 30; p++) {
+                x.pupil(p, 0, 3);
+            }
+            for (int rank = 0; rank < 6; rank++) {
+                due("wish(29, " + (9 - rank) + ")", x.wish(29, 9 - rank), rank);
+            }
+            due("open()", x.open(), 6 + 5 + 4);
+            due("courses", x.person(29, 3), 0b1110000000);
+            due("quit(29, " + gone + ")", x.quit(29, gone), true);
+            due("courses", x.person(29, 3), 0b1110000000 & ~(1 << gone));
+            for (int rank = 0; rank < 6; rank++) {
+                int want = rank == 5 ? NONE : 9 - rank > gone ? 9 - rank : 8 - rank;
+                due("without " + gone + " the course of rank " + rank, x.person(29, 10 + rank), want);
+            }
+            due("it may come again", x.wish(29, gone), 5);
+            due("and is had again", x.why(29, gone), 0);
+            due("its moves", x.person(29, 6), 1);
+        }
+    }
+
     private static void hasItNot() {
         changesNothing(TermEdgeTest::calm, "quit(0, 0) before a term", x -> bit(x.quit(0, 0)), 0);
         changesNothing(TermEdgeTest::busy, "quit of a wish without a place", x -> bit(x.quit(3, 0)), 0);
@@ -505,6 +533,7 @@ public final class TermEdgeTest extends Edge {
         sentence(15, "which it leaves then, with as many as it WANTS, too", TermEdgeTest::swapsWithAll);
         sentence(15, "A PUPIL gives up a COURSE that it has: this WISH is no more", TermEdgeTest::gaveUp);
         sentence(15, "those behind it are of one RANK less", TermEdgeTest::oneRankLess);
+        sentence(15, "those behind it are of one RANK less, of the last PUPIL, too", TermEdgeTest::lastOfAll);
         sentence(15, "False: it has it not", TermEdgeTest::hasItNot);
         finish();
     }
