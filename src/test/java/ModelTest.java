@@ -25,7 +25,8 @@ public final class ModelTest {
     private final int seatBound;
     private int wrong;
     private int calls;
-    private static final int[] seen = new int[16];
+    /** How often the runs came to cases that must not be missed: 0 to 4 by calls, 5 to 8 the FAULT, 9 to 14 why(). */
+    private static final int[] seen = new int[15];
 
     private ModelTest(int seed) {
         this.seed = seed;
@@ -311,7 +312,7 @@ public final class ModelTest {
             }
         }
         for (int i = 0; i < seen.length; i++) {
-            if (seen[i] == 0 && i != 15) {
+            if (seen[i] == 0) {
                 System.out.println("the random runs never came to case " + i);
                 bad++;
             }
